@@ -20,9 +20,12 @@ public final class Schedulary {
 
     // Two nodes that read, one that operates and one that writes are the most that a statement has.
     private static final int MOST_NODES = MOST_IN_BODY * 4;
-    // 24 nodes that write and 48 that read one memory make 2,856 edges; all others are fewer than 300.
-    private static final int MOST_EDGES = 3200;
-    // No length and no interval is more than the cycles of all nodes.
+    // From one node: 71 to others of its memory, 24 to users of its register, and 5 more within the statement,
+    // by channels and to makers of registers.
+    private static final int MOST_EDGES_FROM = 100;
+    // No two nodes meet at more turns ahead: indexes differ by 18, and copies by 3.
+    private static final int MOST_DISTANCE = 21;
+    // No length and no interval is more than the cycles of all nodes together.
     private static final int MOST_LENGTH = MOST_NODES * MOST_CYCLES + 1;
 
     private static final int PROCESSES = 4;
@@ -135,7 +138,8 @@ public final class Schedulary {
         program.useSpare(statement);
         text.empty();
         changeBody();
-        return nodes();
+        prepare(WITH_NODES);
+        return body.count;
     }
 
     public int setTurns(int turns) throws IllegalArgumentException, UnsupportedOperationException {
@@ -174,7 +178,8 @@ public final class Schedulary {
         }
         program.factor = factor;
         changeBody();
-        return nodes();
+        prepare(WITH_NODES);
+        return body.count;
     }
 
     public int input(int value) throws IllegalArgumentException, IllegalStateException {
@@ -270,11 +275,13 @@ public final class Schedulary {
     }
 
     public char kindOf(int node) throws IndexOutOfBoundsException {
+        prepare(WITH_NODES);
         checkNode(node);
         return KINDS.charAt(body.nodes[node].kind);
     }
 
     public int statementOf(int node) throws IndexOutOfBoundsException {
+        prepare(WITH_NODES);
         checkNode(node);
         return body.nodes[node].statement;
     }
@@ -285,31 +292,31 @@ public final class Schedulary {
     }
 
     public int weight(int from, int to, int distance) throws IndexOutOfBoundsException, NoSuchElementException {
+        prepare(WITH_EDGES);
         checkNode(from);
         checkNode(to);
-        prepare(WITH_EDGES);
         int edge = graph.find(from, to, distance);
         if (edge == NONE) {
             throw new NoSuchElementException("no such edge");
         }
-        return graph.weights[edge];
+        return graph.weights[from][edge];
     }
 
     public int soon(int node) throws IndexOutOfBoundsException {
-        checkNode(node);
         prepare(WITH_STEPS);
+        checkNode(node);
         return steps.soonest[node];
     }
 
     public int late(int node) throws IndexOutOfBoundsException {
-        checkNode(node);
         prepare(WITH_STEPS);
+        checkNode(node);
         return steps.latest[node];
     }
 
     public int step(int node) throws IndexOutOfBoundsException {
-        checkNode(node);
         prepare(WITH_STEPS);
+        checkNode(node);
         return steps.byLists[node];
     }
 
@@ -351,8 +358,8 @@ public final class Schedulary {
     }
 
     public int place(int node) throws IndexOutOfBoundsException {
-        checkNode(node);
         prepare(WITH_PACE);
+        checkNode(node);
         return pace.places[node];
     }
 
@@ -496,7 +503,6 @@ public final class Schedulary {
     }
 
     private void checkNode(int node) throws IndexOutOfBoundsException {
-        prepare(WITH_NODES);
         if (node < 0 || node >= body.count) {
             throw new IndexOutOfBoundsException("no such node");
         }
@@ -558,12 +564,12 @@ public final class Schedulary {
             return before;
         }
 
-        // Answers the place of the fault, or NONE; a sign that does not fit is never passed, so it is where reading stands.
+        // Answers the place of the fault, or NONE; reading never passes a sign that does not fit, so it stands there.
         private int readInto(Statement statement) {
             at = 0;
             statement.forget();
-            boolean isWhole = readTarget(statement) && readSign('=')
-                    && readOperand(statement, FIRST) && readRest(statement);
+            boolean isWhole = readTarget(statement) && readSign('=') && readOperand(statement, FIRST)
+                    && (at == count || readOperation(statement) && readOperand(statement, SECOND) && at == count);
             return isWhole ? NONE : at;
         }
 
@@ -584,20 +590,16 @@ public final class Schedulary {
                 statement.forms[TARGET] = CHANNEL_OUT;
                 return true;
             }
-            return isNextRegister() ? readRegister(statement, TARGET) : readPlace(statement, TARGET);
+            return readRegister(statement, TARGET) || readPlace(statement, TARGET);
         }
 
-        private boolean readRest(Statement statement) {
-            if (at == count) {
-                return true;
-            }
-            char sign = next();
-            if (OPERATIONS.indexOf(sign) < 0) {
+        private boolean readOperation(Statement statement) {
+            if (OPERATIONS.indexOf(next()) < 0) {
                 return false;
             }
+            statement.operation = next();
             at++;
-            statement.operation = sign;
-            return readOperand(statement, SECOND) && at == count;
+            return true;
         }
 
         private boolean readOperand(Statement statement, int part) {
@@ -609,18 +611,22 @@ public final class Schedulary {
                 statement.forms[part] = TURN;
                 return true;
             }
-            if (isNextDigit()) {
+            if (isDigit(next())) {
                 statement.forms[part] = NUMBER;
-                statement.numbers[part] = readNumber();
+                statement.numbers[part] = readNumber(2);
                 return true;
             }
-            return isNextRegister() ? readRegister(statement, part) : readPlace(statement, part);
+            return readRegister(statement, part) || readPlace(statement, part);
         }
 
         private boolean readRegister(Statement statement, int part) {
-            statement.forms[part] = REGISTER;
-            statement.numbers[part] = next() - 'a';
+            char sign = next();
+            if (sign < 'a' || sign > 'h') {
+                return false;
+            }
             at++;
+            statement.forms[part] = REGISTER;
+            statement.numbers[part] = sign - 'a';
             return true;
         }
 
@@ -635,45 +641,31 @@ public final class Schedulary {
         }
 
         private boolean readIndex(Statement statement, int part) {
-            statement.areTurning[part] = readSign('i');
-            if (!statement.areTurning[part]) {
-                if (!isNextDigit()) {
-                    return false;
-                }
-                statement.numbers[part] = readNumber();
+            boolean isTurning = readSign('i');
+            statement.areTurning[part] = isTurning;
+            boolean isLess = isTurning && readSign('-');
+            if (isTurning && !isLess && !readSign('+')) {
                 return true;
             }
-            if (readSign('+')) {
-                return readOffset(statement, part, 1);
-            }
-            return !readSign('-') || readOffset(statement, part, -1);
-        }
-
-        private boolean readOffset(Statement statement, int part, int sign) {
-            if (!isNextDigit()) {
+            if (!isDigit(next())) {
                 return false;
             }
-            statement.numbers[part] = sign * readDigit();
+            int number = readNumber(isTurning ? 1 : 2);
+            statement.numbers[part] = isLess ? -number : number;
             return true;
         }
 
-        private int readNumber() {
-            int number = readDigit();
-            return isNextDigit() ? number * 10 + readDigit() : number;
+        private int readNumber(int mostDigits) {
+            int number = 0;
+            for (int digits = 0; digits < mostDigits && isDigit(next()); digits++) {
+                number = number * 10 + next() - '0';
+                at++;
+            }
+            return number;
         }
 
-        private int readDigit() {
-            int digit = next() - '0';
-            at++;
-            return digit;
-        }
-
-        private boolean isNextDigit() {
-            return isWithin(next(), '0', '9');
-        }
-
-        private boolean isNextRegister() {
-            return isWithin(next(), 'a', 'h');
+        private static boolean isDigit(char sign) {
+            return sign >= '0' && sign <= '9';
         }
     }
 
@@ -854,7 +846,7 @@ public final class Schedulary {
         }
 
         private static boolean isInside(int memory, int place) {
-            return isWithin(memory, 0, MEMORIES - 1) && isWithin(place, 0, PLACES - 1);
+            return memory >= 0 && memory < MEMORIES && place >= 0 && place < PLACES;
         }
 
         private int look(int memory, int place) {
@@ -918,6 +910,8 @@ public final class Schedulary {
         private int secondGiver;
         private int uses;
         private int makes;
+        private int firstPlace;
+        private boolean isTurning;
         private boolean isOperating;
         private boolean isWriting;
 
@@ -931,25 +925,20 @@ public final class Schedulary {
             secondGiver = NONE;
             uses = 0;
             makes = NONE;
+            firstPlace = 0;
+            isTurning = false;
             isOperating = false;
             isWriting = false;
         }
 
+        // Takes the index of a part: the place that it tells in the first turn of the body, and whether that has i.
+        private void setPlace(int itsPart) {
+            firstPlace = source.placeOf(itsPart, copy);
+            isTurning = source.areTurning[itsPart];
+        }
+
         private boolean isUsing(int register) {
             return (uses & 1 << register) != 0;
-        }
-
-        private int partWithPlace() {
-            return isWriting ? TARGET : part;
-        }
-
-        private boolean isTurning() {
-            return source.areTurning[partWithPlace()];
-        }
-
-        // The place in the first turn of the body, for an index with i.
-        private int firstPlace() {
-            return source.placeOf(partWithPlace(), copy);
         }
     }
 
@@ -1011,12 +1000,14 @@ public final class Schedulary {
             }
             int node = append(source, statement, copy, source.forms[part]);
             nodes[node].part = part;
+            nodes[node].setPlace(part);
             return node;
         }
 
         private void appendWriting(Statement source, int statement, int copy, int giver) {
             int node = append(source, statement, copy, source.forms[TARGET]);
             nodes[node].isWriting = true;
+            nodes[node].setPlace(TARGET);
             nodes[node].firstGiver = giver;
             nodes[node].uses = giver == NONE ? source.maskOfRegister(FIRST) : 0;
         }
@@ -1054,6 +1045,25 @@ public final class Schedulary {
             return few < 1 ? 0 : (ofKind[kind] + few - 1) / few;
         }
 
+        private boolean areUnitsKept(int[] begins, int interval) {
+            for (int node = 0; node < count; node++) {
+                if (countTogether(begins, interval, node) > units[nodes[node].kind]) {
+                    return false;
+                }
+            }
+            return true;
+        }
+
+        private int countTogether(int[] begins, int interval, int node) {
+            int together = 0;
+            for (int other = 0; other < count; other++) {
+                if (nodes[other].kind == nodes[node].kind && isDivided(begins[other] - begins[node], interval)) {
+                    together++;
+                }
+            }
+            return together;
+        }
+
         private int lastMakerAhead(int register, int node) {
             for (int maker = node - 1; maker >= 0; maker--) {
                 if (nodes[maker].makes == register) {
@@ -1073,19 +1083,18 @@ public final class Schedulary {
         }
     }
 
-    /** The edges between the nodes of a body, in a chain for each node from which they come. */
+    /** The edges between the nodes of a body, in a row for each node from which they come. */
     private static final class Graph {
-        private final int[] tos = new int[MOST_EDGES];
-        private final int[] distances = new int[MOST_EDGES];
-        private final int[] weights = new int[MOST_EDGES];
-        private final int[] nexts = new int[MOST_EDGES];
-        private final int[] heads = new int[MOST_NODES];
+        private final int[][] tos = new int[MOST_NODES][MOST_EDGES_FROM];
+        private final int[][] distances = new int[MOST_NODES][MOST_EDGES_FROM];
+        private final int[][] weights = new int[MOST_NODES][MOST_EDGES_FROM];
+        private final int[] sizes = new int[MOST_NODES];
         private int count;
 
         private void join(Body body, int factor) {
             count = 0;
             for (int node = 0; node < MOST_NODES; node++) {
-                heads[node] = NONE;
+                sizes[node] = 0;
             }
             joinWithinStatements(body);
             for (int register = 0; register < REGISTERS; register++) {
@@ -1099,8 +1108,8 @@ public final class Schedulary {
         }
 
         private int find(int from, int to, int distance) {
-            for (int edge = heads[from]; edge != NONE; edge = nexts[edge]) {
-                if (tos[edge] == to && distances[edge] == distance) {
+            for (int edge = 0; edge < sizes[from]; edge++) {
+                if (tos[from][edge] == to && distances[from][edge] == distance) {
                     return edge;
                 }
             }
@@ -1110,13 +1119,13 @@ public final class Schedulary {
         private void put(int from, int to, int distance, int weight) {
             int edge = find(from, to, distance);
             if (edge != NONE) {
-                weights[edge] = Math.max(weights[edge], weight);
-            } else if (count < MOST_EDGES) {
-                tos[count] = to;
-                distances[count] = distance;
-                weights[count] = weight;
-                nexts[count] = heads[from];
-                heads[from] = count;
+                weights[from][edge] = Math.max(weights[from][edge], weight);
+            } else if (sizes[from] < MOST_EDGES_FROM) {
+                edge = sizes[from];
+                tos[from][edge] = to;
+                distances[from][edge] = distance;
+                weights[from][edge] = weight;
+                sizes[from] = edge + 1;
                 count++;
             }
         }
@@ -1214,14 +1223,14 @@ public final class Schedulary {
         }
 
         private static int distanceTo(Node first, Node second, boolean isBehind, int factor) {
-            int ahead = first.firstPlace() - second.firstPlace();
-            if (first.isTurning() && second.isTurning()) {
+            int ahead = first.firstPlace - second.firstPlace;
+            if (first.isTurning && second.isTurning) {
                 if (ahead < 0 || !isDivided(ahead, factor) || ahead == 0 && !isBehind) {
                     return NONE;
                 }
                 return factor > 0 ? ahead / factor : NONE;
             }
-            if (!first.isTurning() && !second.isTurning() && ahead != 0) {
+            if (!first.isTurning && !second.isTurning && ahead != 0) {
                 return NONE;
             }
             return isBehind ? 0 : 1;
@@ -1248,9 +1257,10 @@ public final class Schedulary {
         // Whether steps keep all edges up to a distance, if turns begin at the interval.
         private boolean isKept(Body body, int[] begins, int interval, int mostDistance) {
             for (int from = 0; from < body.count; from++) {
-                for (int edge = heads[from]; edge != NONE; edge = nexts[edge]) {
-                    int end = begins[tos[edge]] + interval * distances[edge];
-                    if (distances[edge] <= mostDistance && end < begins[from] + weights[edge]) {
+                for (int edge = 0; edge < sizes[from]; edge++) {
+                    int distance = distances[from][edge];
+                    int behind = begins[tos[from][edge]] + interval * distance - begins[from];
+                    if (distance <= mostDistance && behind < weights[from][edge]) {
                         return false;
                     }
                 }
@@ -1281,10 +1291,10 @@ public final class Schedulary {
                 soonest[node] = 0;
             }
             for (int from = 0; from < body.count; from++) {
-                for (int edge = graph.heads[from]; edge != NONE; edge = graph.nexts[edge]) {
-                    int to = graph.tos[edge];
-                    if (graph.distances[edge] == 0) {
-                        soonest[to] = Math.max(soonest[to], soonest[from] + graph.weights[edge]);
+                for (int edge = 0; edge < graph.sizes[from]; edge++) {
+                    if (graph.distances[from][edge] == 0) {
+                        int to = graph.tos[from][edge];
+                        soonest[to] = Math.max(soonest[to], soonest[from] + graph.weights[from][edge]);
                     }
                 }
             }
@@ -1293,13 +1303,13 @@ public final class Schedulary {
         private void orderLatest(Body body, Graph graph) {
             int end = body.endOf(soonest);
             for (int from = body.count - 1; from >= 0; from--) {
-                int latestOfAll = end - body.cyclesOf(from);
-                for (int edge = graph.heads[from]; edge != NONE; edge = graph.nexts[edge]) {
-                    if (graph.distances[edge] == 0) {
-                        latestOfAll = Math.min(latestOfAll, latest[graph.tos[edge]] - graph.weights[edge]);
+                latest[from] = end - body.cyclesOf(from);
+                for (int edge = 0; edge < graph.sizes[from]; edge++) {
+                    if (graph.distances[from][edge] == 0) {
+                        int to = graph.tos[from][edge];
+                        latest[from] = Math.min(latest[from], latest[to] - graph.weights[from][edge]);
                     }
                 }
-                latest[from] = latestOfAll;
             }
         }
 
@@ -1307,16 +1317,22 @@ public final class Schedulary {
             startLists(body, graph);
             int left = body.count;
             for (int cycle = 0; cycle < MOST_LENGTH && left > 0; cycle++) {
-                for (int kind = 0; kind < KIND_COUNT; kind++) {
-                    begun[kind] = 0;
-                }
-                int node = chooseFor(body, cycle);
-                while (node != NONE && left > 0) {
-                    beginAt(body, graph, node, cycle);
-                    left--;
-                    node = chooseFor(body, cycle);
-                }
+                left -= beginAllAt(body, graph, cycle);
             }
+        }
+
+        private int beginAllAt(Body body, Graph graph, int cycle) {
+            for (int kind = 0; kind < KIND_COUNT; kind++) {
+                begun[kind] = 0;
+            }
+            for (int beginnings = 0; beginnings < body.count; beginnings++) {
+                int node = chooseFor(body, cycle);
+                if (node == NONE) {
+                    return beginnings;
+                }
+                beginAt(body, graph, node, cycle);
+            }
+            return body.count;
         }
 
         private void startLists(Body body, Graph graph) {
@@ -1326,9 +1342,9 @@ public final class Schedulary {
                 missing[node] = 0;
             }
             for (int from = 0; from < body.count; from++) {
-                for (int edge = graph.heads[from]; edge != NONE; edge = graph.nexts[edge]) {
-                    if (graph.distances[edge] == 0) {
-                        missing[graph.tos[edge]]++;
+                for (int edge = 0; edge < graph.sizes[from]; edge++) {
+                    if (graph.distances[from][edge] == 0) {
+                        missing[graph.tos[from][edge]]++;
                     }
                 }
             }
@@ -1350,11 +1366,11 @@ public final class Schedulary {
         private void beginAt(Body body, Graph graph, int node, int cycle) {
             byLists[node] = cycle;
             begun[body.nodes[node].kind]++;
-            for (int edge = graph.heads[node]; edge != NONE; edge = graph.nexts[edge]) {
-                if (graph.distances[edge] == 0) {
-                    int to = graph.tos[edge];
+            for (int edge = 0; edge < graph.sizes[node]; edge++) {
+                if (graph.distances[node][edge] == 0) {
+                    int to = graph.tos[node][edge];
                     missing[to]--;
-                    earliest[to] = Math.max(earliest[to], cycle + graph.weights[edge]);
+                    earliest[to] = Math.max(earliest[to], cycle + graph.weights[node][edge]);
                 }
             }
         }
@@ -1424,24 +1440,9 @@ public final class Schedulary {
             return true;
         }
 
+        // Begun at an interval that no step reaches, nodes meet others of the same step alone.
         private boolean areKept(Body body, Graph graph) {
-            return graph.isKept(body, byLists, 0, 0) && areUnitsKept(body);
-        }
-
-        private boolean areUnitsKept(Body body) {
-            for (int node = 0; node < body.count; node++) {
-                int kind = body.nodes[node].kind;
-                int together = 0;
-                for (int other = 0; other < body.count; other++) {
-                    if (body.nodes[other].kind == kind && byLists[other] == byLists[node]) {
-                        together++;
-                    }
-                }
-                if (together > body.units[kind]) {
-                    return false;
-                }
-            }
-            return true;
+            return graph.isKept(body, byLists, 0, 0) && body.areUnitsKept(byLists, MOST_LENGTH);
         }
     }
 
@@ -1471,7 +1472,7 @@ public final class Schedulary {
         private int findByRings(Body body, Graph graph) {
             int least = 1;
             int most = Math.max(1, body.sumOfCycles());
-            while (least < most) {
+            for (int tries = 0; tries < MOST_LENGTH && least < most; tries++) {
                 int middle = (least + most) / 2;
                 if (isAllowedByRings(body, graph, middle)) {
                     most = middle;
@@ -1504,9 +1505,9 @@ public final class Schedulary {
         private int pushAll(Body body, Graph graph, int tried) {
             int heaviest = NONE;
             for (int from = 0; from < body.count; from++) {
-                for (int edge = graph.heads[from]; edge != NONE; edge = graph.nexts[edge]) {
-                    int to = graph.tos[edge];
-                    int way = leasts[from] + graph.weights[edge] - tried * graph.distances[edge];
+                for (int edge = 0; edge < graph.sizes[from]; edge++) {
+                    int to = graph.tos[from][edge];
+                    int way = leasts[from] + graph.weights[from][edge] - tried * graph.distances[from][edge];
                     if (way > leasts[to]) {
                         leasts[to] = way;
                         heaviest = Math.max(heaviest, way);
@@ -1547,10 +1548,11 @@ public final class Schedulary {
         private int findStep(Graph graph, int node, int kind, int units) {
             int least = leasts[node];
             int most = least + interval - 1;
-            for (int edge = graph.heads[node]; edge != NONE; edge = graph.nexts[edge]) {
-                int to = graph.tos[edge];
+            for (int edge = 0; edge < graph.sizes[node]; edge++) {
+                int to = graph.tos[node][edge];
                 if (to < node) {
-                    most = Math.min(most, places[to] + interval * graph.distances[edge] - graph.weights[edge]);
+                    int begin = places[to] + interval * graph.distances[node][edge];
+                    most = Math.min(most, begin - graph.weights[node][edge]);
                 }
             }
             for (int step = least; step <= most; step++) {
@@ -1564,9 +1566,9 @@ public final class Schedulary {
         private void placeAt(Graph graph, int node, int kind, int step) {
             places[node] = step;
             begun[kind][restOf(step)]++;
-            for (int edge = graph.heads[node]; edge != NONE; edge = graph.nexts[edge]) {
-                int to = graph.tos[edge];
-                int least = step + graph.weights[edge] - interval * graph.distances[edge];
+            for (int edge = 0; edge < graph.sizes[node]; edge++) {
+                int to = graph.tos[node][edge];
+                int least = step + graph.weights[node][edge] - interval * graph.distances[node][edge];
                 leasts[to] = Math.max(leasts[to], least);
             }
         }
@@ -1596,23 +1598,7 @@ public final class Schedulary {
         }
 
         private boolean isKept(Body body, Graph graph) {
-            return graph.isKept(body, places, interval, Integer.MAX_VALUE) && areUnitsKept(body);
-        }
-
-        private boolean areUnitsKept(Body body) {
-            for (int node = 0; node < body.count; node++) {
-                int kind = body.nodes[node].kind;
-                int together = 0;
-                for (int other = 0; other < body.count; other++) {
-                    if (body.nodes[other].kind == kind && restOf(places[other]) == restOf(places[node])) {
-                        together++;
-                    }
-                }
-                if (together > body.units[kind]) {
-                    return false;
-                }
-            }
-            return true;
+            return graph.isKept(body, places, interval, MOST_DISTANCE) && body.areUnitsKept(places, interval);
         }
     }
 
