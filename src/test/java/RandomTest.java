@@ -201,6 +201,29 @@ public final class RandomTest {
         }
     }
 
+    // As many nodes as can be, in the longest chains and with the most edges.
+    private void runGreat() {
+        String[] greats = {"M[0]=M[0]*M[0]", "M[i]=<+<", "N[i+9]=N[i-9]^N[3]", ">=<*<", "a=a*M[i]"};
+        for (String great : greats) {
+            start();
+            for (int statement = 0; statement < 12; statement++) {
+                typed(great);
+                call("add");
+            }
+            askAll();
+            call("unroll", 2);
+            askAll();
+            for (char kind : KINDS.toCharArray()) {
+                call("setCycles", kind, 5);
+            }
+            askAll();
+            call("setTurns", 16);
+            call("setUnits", 'M', 4);
+            call("setCycles", 'm', 1);
+            askAll();
+        }
+    }
+
     private void runProcesses(int runs) {
         for (int run = 0; run < runs; run++) {
             start();
@@ -292,6 +315,7 @@ public final class RandomTest {
         test.runTexts(3000 * times);
         test.runProcesses(1000 * times);
         test.runWild(300 * times);
+        test.runGreat();
         test.runPrograms(400 * times, 5);
         test.runPrograms(60 * times, 12);
         test.checks.end("RandomTest");
