@@ -989,7 +989,7 @@ public final class Schedulary {
             }
             if (register == NONE) {
                 appendWriting(source, statement, copy, last);
-            } else {
+            } else if (last != NONE) {
                 nodes[last].makes = register;
             }
         }

@@ -92,6 +92,8 @@ public final class ProcessTest {
         same("46 by one", z.leastDepth(), 1);
         same("46 by 16", of("p0p0p0p0p0p0p0p0p0p0p0p0p0p0p0p0").leastDepth(), 16);
         same("46 by 3", of("p0p0p0p1", "t1t0t0t0").leastDepth(), 3);
+        // One value goes round from 3 to 2, 1 and 0, eight times; each step down waits for another round.
+        endsAre(of("t0p3".repeat(8), "t1p0".repeat(8), "t2p1".repeat(8), "p2t3".repeat(8)), 64, "-1 -1 -1 -1");
         // Depths differ: the channel 1 alone is deep enough.
         Schedulary u = of("p0p1p1t0");
         endsAre(u, 2, "1 -1 -1 -1");
