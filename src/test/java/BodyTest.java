@@ -73,8 +73,7 @@ public final class BodyTest {
     }
 
     private static void edgesAre(Schedulary x, String due) {
-        same("23 edges", Checks.edgesOf(x), due);
-        same("22 count of " + due, x.edges(), due.isEmpty() ? 0 : due.split(" ").length);
+        CHECKS.edgesAre("22 and 23", x, due);
     }
 
     private static Schedulary with(Schedulary x, String kinds, int... cycles) {

@@ -52,23 +52,20 @@ final class Checks {
         return x;
     }
 
-    /** All edges, as from>to@distance=weight, one behind the other by these numbers. */
-    static String edgesOf(Schedulary x) {
-        StringBuilder all = new StringBuilder();
-        for (int from = 0; from < x.nodes(); from++) {
-            for (int to = 0; to < x.nodes(); to++) {
-                for (int distance = -2; distance < 30; distance++) {
-                    try {
-                        int weight = x.weight(from, to, distance);
-                        all.append(' ').append(from).append('>').append(to).append('@').append(distance);
-                        all.append('=').append(weight);
-                    } catch (java.util.NoSuchElementException e) {
-                        continue;
-                    }
-                }
+    /** What is due has all edges, as from>to@distance=weight: as many as there are, each with its weight. */
+    void edgesAre(String what, Schedulary x, String due) {
+        String[] edges = due.isEmpty() ? new String[0] : due.split(" ");
+        same(what + ", how many edges of " + due, x.edges(), edges.length);
+        for (String edge : edges) {
+            String[] numbers = edge.split("[>@=]");
+            Object weight;
+            try {
+                weight = x.weight(Integer.parseInt(numbers[0]), Integer.parseInt(numbers[1]), Integer.parseInt(numbers[2]));
+            } catch (RuntimeException e) {
+                weight = e.getClass().getSimpleName();
             }
+            same(what + ", " + edge + " of " + due, weight.toString(), numbers[3]);
         }
-        return all.toString().trim();
     }
 
     interface OfNode {

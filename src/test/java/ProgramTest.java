@@ -42,9 +42,9 @@ public final class ProgramTest {
     }
 
     private static void typingSigns() {
-        Schedulary x = new Schedulary();
         String signs = "0123456789abcdefghilMN=[]+-*&|^<>";
         for (int sign = 0; sign < 300; sign++) {
+            Schedulary x = new Schedulary();
             char typed = (char) sign;
             if (signs.indexOf(typed) < 0) {
                 throwing("2 type " + sign, ARGUMENT, () -> x.type(typed));
@@ -53,6 +53,7 @@ public final class ProgramTest {
                 same("2 clear", x.clear(), 1);
             }
         }
+        Schedulary x = new Schedulary();
         throwing("2 type a sign far off", ARGUMENT, () -> x.type((char) ('a' + 256)));
         throwing("2 type the last sign", ARGUMENT, () -> x.type((char) 65535));
         for (int count = 1; count <= 24; count++) {
