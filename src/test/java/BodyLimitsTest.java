@@ -48,7 +48,8 @@ public final class BodyLimitsTest {
     // Promises 19 to 21: nodes.
 
     private static void aStatementHasOneToFourNodes() {
-        String[] statements = {"a=b", "a=9", "a=i", "a=<", "a=M[0]", "a=N[i]", "M[0]=a", "N[i]=9", "M[i]=i", ">=a", ">=9",
+        String[] statements = {"a=b", "a=9", "a=i", "a=<", "a=M[0]", "a=N[i]", "M[0]=a", "N[i]=9", "M[i]=i", ">=a",
+            ">=9",
             ">=i", "a=b+c", "a=9*i", "a=b&b", ">=<", "M[0]=N[0]", "a=<+b", "a=b*N[i]", ">=a+b", "M[i]=a^1", "a=<l<",
             "a=M[0]-N[0]", ">=<|b", "N[0]=b-M[0]", ">=<+<", "M[0]=M[0]*M[0]", "N[0]=M[i]&<"};
         String[] kinds = {"g", "g", "g", "<", "M", "N", "M", "N", "M", ">", ">",
@@ -58,7 +59,8 @@ public final class BodyLimitsTest {
             Schedulary x = Checks.of(statements[row]);
             same("19 " + statements[row], x.nodes(), kinds[row].length());
             same("20 " + statements[row], Checks.each(x, x::kindOf).replace(" ", ""), kinds[row]);
-            same("21 " + statements[row], Checks.each(x, x::statementOf), "0 0 0 0".substring(0, 2 * kinds[row].length() - 1));
+            same("21 " + statements[row], Checks.each(x, x::statementOf), "0 0 0 0".substring(0,
+                    2 * kinds[row].length() - 1));
         }
     }
 
@@ -144,7 +146,8 @@ public final class BodyLimitsTest {
         // Within the statement L, by the memory 1 less L.
         edges("within and by a memory", with(Checks.of("M[i]=M[i]"), "M", 5), "0>1@0=5");
         edges("within and by a number", with(Checks.of("M[9]=M[9]"), "M", 5), "0>1@0=5 1>0@1=5");
-        edges("count of both", with(Checks.of("M[9]=M[9]*M[9]"), "M", 1), "0>2@0=1 1>2@0=1 2>3@0=1 0>3@0=0 1>3@0=0 3>0@1=1 3>1@1=1");
+        edges("count of both", with(Checks.of("M[9]=M[9]*M[9]"), "M", 1),
+                "0>2@0=1 1>2@0=1 2>3@0=1 0>3@0=0 1>3@0=0 3>0@1=1 3>1@1=1");
     }
 
     // Edges by memories.
@@ -161,8 +164,10 @@ public final class BodyLimitsTest {
 
     private static void indexesWithIMeetZeroToEighteenTurnsLater() {
         for (int offset = 0; offset <= 9; offset++) {
-            edges("writes then reads i", with(Checks.of("M[i+" + offset + "]=1", "a=M[i]"), "M", 3), "0>1@" + offset + "=3");
-            edges("writes then reads i-9", Checks.of("M[i+" + offset + "]=1", "a=M[i-9]"), "0>1@" + (offset + 9) + "=1");
+            edges("writes then reads i", with(Checks.of("M[i+" + offset + "]=1", "a=M[i]"), "M", 3),
+                    "0>1@" + offset + "=3");
+            edges("writes then reads i-9", Checks.of("M[i+" + offset + "]=1", "a=M[i-9]"),
+                    "0>1@" + (offset + 9) + "=1");
         }
         edges("reads, and one behind it writes later", with(Checks.of("a=M[i+9]", "M[i-9]=1"), "M", 3), "0>1@18=-2");
         edges("writes ahead", with(Checks.of("M[i-9]=1", "a=M[i+9]"), "M", 3), "1>0@18=-2");
@@ -354,7 +359,8 @@ public final class BodyLimitsTest {
         same("29 not the last cycle by one more", with(Checks.of(">=a-b", "a=1", "b=i*2"), "m>", 4, 3).waiting(), 1);
         // The next turn makes a anew ahead of its use.
         same("29 not beyond the next maker", with(Checks.of("a=1", ">=a", ">=2"), ">", 5).waiting(), 1);
-        same("29 used by the first maker of the turn behind", with(Checks.of("a=a+1", ">=1", "a=3"), ">", 5).waiting(), 1);
+        same("29 used by the first maker of the turn behind", with(Checks.of("a=a+1", ">=1", "a=3"), ">", 5).waiting(),
+                1);
     }
 
     private static void valuesWaitByListsNotAsSoonAsPossible() {
@@ -373,7 +379,8 @@ public final class BodyLimitsTest {
     }
 
     private static void allEightRegistersWait() {
-        Schedulary x = Checks.of(">=a+b", ">=c+d", ">=e+f", ">=g+h", "a=1", "b=2", "c=3", "d=4", "e=5", "f=6", "g=7", "h=8");
+        Schedulary x = Checks.of(">=a+b", ">=c+d", ">=e+f", ">=g+h", "a=1", "b=2", "c=3", "d=4", "e=5", "f=6", "g=7",
+                "h=8");
         units(x, "g", 4);
         with(x, ">", 5);
         same("29 eight", x.waiting(), 8);

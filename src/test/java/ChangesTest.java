@@ -66,7 +66,7 @@ public final class ChangesTest {
         Schedulary x = new Schedulary();
         x.setTurns(6);
         x.unroll(2);
-        for (int value : new int[] {9, 300, 4, 60, 7, 81, 5, 32}) {
+        for (int value : new int[] {9, 300, 4, 60}) {
             x.input(value);
         }
         x.setMemory('N', 3, 700);
@@ -181,7 +181,9 @@ public final class ChangesTest {
         for (int number = 0; number < changes.size(); number++) {
             Call change = changes.get(number);
             Schedulary asked = told(true);
-            Seen.answersOf(asked);
+            for (Call call : ASKED) {
+                answerOf(call, asked);
+            }
             change.answer(asked);
             Schedulary never = told(true);
             change.answer(never);
@@ -225,8 +227,37 @@ public final class ChangesTest {
         CHECKS.same("a small body", Seen.difference(Seen.answersOf(Checks.of(others)), Seen.answersOf(x)), "");
     }
 
+    private static void aLongerBodyLeavesNoWaitingValues() {
+        Schedulary x = Checks.of(">=a+b", "a=1", "b=2");
+        x.setCycles('>', 5);
+        x.setUnits('g', 2);
+        CHECKS.same("29 both wait", x.waiting(), 2);
+        x.setCycles('>', 1);
+        Checks.typed(x, ">=a");
+        x.replace(0);
+        CHECKS.same("29 no cycle is left", x.waiting(), 0);
+        Schedulary y = Checks.of("a=i", ">=<*a");
+        y.setCycles('>', 5);
+        CHECKS.same("29 one waits", y.waiting(), 1);
+        Checks.typed(y, ">=5");
+        y.replace(1);
+        CHECKS.same("29 nobody uses it now", y.waiting(), 0);
+    }
+
+    private static void whatBindsIsAskedAlone() {
+        CHECKS.same("33 a unit", Checks.of("a=1", "b=2").binds(), 'g');
+        Schedulary x = Checks.of("a=1");
+        CHECKS.same("33 a unit by one", x.binds(), 'g');
+        Checks.typed(x, "a=a+1");
+        x.replace(0);
+        CHECKS.same("33 another unit", x.binds(), 'a');
+        x.setCycles('a', 2);
+        CHECKS.same("33 a ring", x.binds(), 'r');
+    }
+
     private static void aTextLeavesNothingInTheNextOne() {
-        String[] befores = {"a=b*c", "M[i+7]=N[i-3]+M[9]", ">=h", "N[15]=99-99", "g=<l<", "h=i|i", "M[i-7]=M[i", "b=77+"};
+        String[] befores = {"a=b*c", "M[i+7]=N[i-3]+M[9]", ">=h", "N[15]=99-99", "g=<l<", "h=i|i", "M[i-7]=M[i",
+            "b=77+"};
         String[] statements = {"M[i]=N[i]", "N[i]=M[0]^N[i]", "a=a", "a=0", ">=i", "M[0]=<", "a=b-M[i]", "d=c|0"};
         for (String before : befores) {
             for (String statement : statements) {
@@ -253,6 +284,8 @@ public final class ChangesTest {
         eachChangeIsSeenByWhatIsAskedBehindIt();
         eachCallSeesEachChange();
         aGreatBodyLeavesNothingInASmallOne();
+        aLongerBodyLeavesNoWaitingValues();
+        whatBindsIsAskedAlone();
         aTextLeavesNothingInTheNextOne();
         CHECKS.end("ChangesTest");
     }

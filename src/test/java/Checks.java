@@ -60,7 +60,8 @@ final class Checks {
             String[] numbers = edge.split("[>@=]");
             Object weight;
             try {
-                weight = x.weight(Integer.parseInt(numbers[0]), Integer.parseInt(numbers[1]), Integer.parseInt(numbers[2]));
+                weight = x.weight(Integer.parseInt(numbers[0]), Integer.parseInt(numbers[1]),
+                        Integer.parseInt(numbers[2]));
             } catch (RuntimeException e) {
                 weight = e.getClass().getSimpleName();
             }

@@ -141,8 +141,10 @@ public final class PaceLimitsTest {
             for (int second = first + 1; second < 7; second++) {
                 String one = twice[first];
                 String other = twice[second];
-                bounds(one + " and " + other, Checks.of(other, other, one, one), byRings(first, second), 2, 2, KINDS.charAt(first));
-                bounds(one + " less than " + other, Checks.of(one, other, other), byRings(second, second), 2, 2, KINDS.charAt(second));
+                bounds(one + " and " + other, Checks.of(other, other, one, one), byRings(first, second), 2, 2,
+                        KINDS.charAt(first));
+                bounds(one + " less than " + other, Checks.of(one, other, other), byRings(second, second), 2, 2,
+                        KINDS.charAt(second));
             }
         }
     }

@@ -163,7 +163,8 @@ public final class ProcessLimitsTest {
         for (int depth = 1; depth <= 15; depth++) {
             Schedulary x = of("p0".repeat(depth) + "p1", "t1" + "t0".repeat(depth));
             least("ahead of what is awaited " + depth, x, depth);
-            ends("by their own depths", x, depth > 1 ? 1 : 4, depth > 1 ? new int[] {0, 1, -1, -1} : new int[] {-1, -1, -1, -1});
+            ends("by their own depths", x, depth > 1 ? 1 : 4, depth > 1 ? new int[] {0, 1, -1, -1} : new int[] {-1, -1,
+                    -1, -1});
             x.setDepth(0, 16);
             ends("by a depth of its own", x, 2 * depth + 2, -1, -1, -1, -1);
             least("whatever the depths are", x, depth);

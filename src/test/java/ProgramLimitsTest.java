@@ -371,7 +371,8 @@ public final class ProgramLimitsTest {
     }
 
     private static void signsTogether() {
-        outputsAre("T and, or, either", turned(Checks.of(">=12&10", ">=12|10", ">=12^10", ">=0&99", ">=0|99", ">=99^99"), 1),
+        outputsAre("T and, or, either", turned(Checks.of(">=12&10", ">=12|10", ">=12^10", ">=0&99", ">=0|99",
+                ">=99^99"), 1),
                 "8 14 6 0 99 0");
     }
 
@@ -430,7 +431,8 @@ public final class ProgramLimitsTest {
     }
 
     private static void aPlaceOutsideReadsAsNothing() {
-        Schedulary x = turned(Checks.of(">=M[0]", ">=M[15]", ">=M[16]", ">=M[99]", ">=N[0]", ">=N[i-1]", ">=N[i+9]"), 1);
+        Schedulary x = turned(Checks.of(">=M[0]", ">=M[15]", ">=M[16]", ">=M[99]", ">=N[0]", ">=N[i-1]", ">=N[i+9]"),
+                1);
         for (int place = 0; place < 16; place++) {
             x.setMemory('M', place, 50 + place);
             x.setMemory('N', place, 70 + place);

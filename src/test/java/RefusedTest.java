@@ -137,13 +137,15 @@ public final class RefusedTest {
     }
 
     private static void adding() {
-        String[] noStatements = {"", "a", "a=", "h=7+", "h=777", "=7", "7=h", "h7", "h=7=", "h==7", "N[i", "N[i+", "N[i+1",
+        String[] noStatements = {"", "a", "a=", "h=7+", "h=777", "=7", "7=h", "h7", "h=7=", "h==7", "N[i", "N[i+",
+            "N[i+1",
             "N[i+1]", "N[i+1]=", "N[i+1]=N", "i=7", "<=7", "h=>", "h=7+7+7", "N[]=7", "N[i+10]=7", "N[100]=7"};
         for (String noStatement : noStatements) {
             String what = noStatement.isEmpty() ? "nothing" : noStatement;
             refused("5 no statement: " + what, ARGUMENT, () -> richWith(noStatement), x -> x.add());
             refused("6 no statement: " + what, ARGUMENT, () -> richWith(noStatement), x -> x.replace(0));
-            refused("6 no statement, for the last one: " + what, ARGUMENT, () -> richWith(noStatement), x -> x.replace(1));
+            refused("6 no statement, for the last one: " + what, ARGUMENT, () -> richWith(noStatement),
+                    x -> x.replace(1));
             refused("6 no such one, and no statement: " + what, INDEX, () -> richWith(noStatement), x -> x.replace(2));
         }
         refused("5 there are 12", STATE, () -> ofStatements(12, 8, 1, "h=7"), x -> x.add());
@@ -304,7 +306,8 @@ public final class RefusedTest {
     private static void processes() {
         for (int number : new int[] {-1, -2, 4, 5, 16, LEAST, GREATEST}) {
             refused("41 no such process: " + number, ARGUMENT, RefusedTest::rich, x -> x.action(number, 0, true));
-            refused("41 no such channel to put: " + number, ARGUMENT, RefusedTest::rich, x -> x.action(0, number, true));
+            refused("41 no such channel to put: " + number, ARGUMENT, RefusedTest::rich, x -> x.action(0, number,
+                    true));
             refused("41 no such channel to take: " + number, ARGUMENT,
                     RefusedTest::rich, x -> x.action(3, number, false));
             refused("41 neither: " + number, ARGUMENT, RefusedTest::rich, x -> x.action(number, number, false));
@@ -316,7 +319,8 @@ public final class RefusedTest {
         for (int channel = 0; channel < 4; channel++) {
             int told = channel;
             refused("41 it has 16, to put into " + told, STATE, RefusedTest::withActions, x -> x.action(2, told, true));
-            refused("41 it has 16, to take from " + told, STATE, RefusedTest::withActions, x -> x.action(2, told, false));
+            refused("41 it has 16, to take from " + told, STATE, RefusedTest::withActions, x -> x.action(2, told,
+                    false));
             for (int depth : new int[] {0, -1, 17, 18, LEAST, GREATEST}) {
                 refused("42 " + told + " by " + depth, ARGUMENT, RefusedTest::rich, x -> x.setDepth(told, depth));
             }

@@ -63,10 +63,10 @@ public final class RulesTest {
         x.unroll(2);
         long sum = 0;
         before = bytes();
-        for (int call = 0; call < 100; call++) {
-            x.setCycles('M', 1 + call % 5);
+        for (int round = 0; round < 30; round++) {
+            x.setCycles('M', 1 + round % 5);
             sum += x.checksum() + x.circuitOutputs() + x.leastDepth() + x.outputs();
-            x.setBits(1 + call % 16);
+            x.setBits(1 + round % 16);
             CHECKS.holds("isSound", x.isSound());
         }
         long made = bytes() - before;
